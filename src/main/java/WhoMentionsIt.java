@@ -397,11 +397,10 @@ public final class WhoMentionsIt {
             return 0;
         }
         speech.readMonth(from, 0);
+        int before = speech.nearness();
         int bits = 0;
         for (int w = 0; w < numbers.words; w++) {
-            speech.append(w);
-            bits |= speech.nearness() >= numbers.bound() ? 1 << w : 0;
-            speech.dropLast();
+            bits |= Math.max(before, speech.runBehind(w)) >= numbers.bound() ? 1 << w : 0;
         }
         return bits;
     }
@@ -1089,10 +1088,12 @@ public final class WhoMentionsIt {
         private final Numbers numbers;
         private final Law rule;
         private final int[] spoken = new int[Shelf.ROOM + 4];
-        // what a WORD gives, by place, b and WORD: above its lowest 8 bits stands the turn it was worked out in
+        // what a WORD gives, by place, b and WORD; above its lowest 8 bits stands the turn that it is of
         private final int[] gifts = new int[KEPT_PLACES * 10 * Numbers.MOST_WORDS];
         private int nerve;
         private int turn;
+        // the greatest of the sums that end with the last WORD looked at; 0: none
+        private int running;
         int length;
 
         Speech(Numbers numbers, Law rule) {
@@ -1133,7 +1134,7 @@ public final class WhoMentionsIt {
 
         int nearness() {
             int greatest = 0;
-            int running = 0;
+            running = 0;
             for (int i = 0; i < length; i++) {
                 running = Math.max(0, running + giftAt(i));
                 greatest = Math.max(greatest, running);
@@ -1141,8 +1142,14 @@ public final class WhoMentionsIt {
             return greatest;
         }
 
+        /** What sums that end with one WORD more come to, behind a SENTENCE whose nearness() was asked last. */
+        int runBehind(int word) {
+            int b = length == 0 || length > spoken.length ? 0 : bOf(word, spoken[length - 1]);
+            return running + gift(word, length, b);
+        }
+
         int placeBehindWhich(int bound) {
-            int running = 0;
+            running = 0;
             for (int i = 0; i < length; i++) {
                 running = Math.max(0, running + giftAt(i));
                 if (running >= bound) {
@@ -1157,8 +1164,8 @@ public final class WhoMentionsIt {
         }
 
         int pairNearness(int first, int second) {
-            int running = aloneNearness(first);
-            return Math.max(running, running + gift(second, 1, bOf(second, first)));
+            int alone = aloneNearness(first);
+            return Math.max(alone, alone + gift(second, 1, bOf(second, first)));
         }
 
         /** 100 times the first WORD and the second one of the least NEAR answer to a KIN, or NOT. */
@@ -1181,10 +1188,6 @@ public final class WhoMentionsIt {
                 spoken[length] = word;
                 length++;
             }
-        }
-
-        void dropLast() {
-            length = Math.max(0, length - 1);
         }
 
         int wordBits() {
@@ -1233,7 +1236,7 @@ public final class WhoMentionsIt {
         private final Numbers numbers;
         private final Speech speech;
         private final int[] kins = new int[MOST_KINS];
-        // the least LONG of the rest, by place, b and running sum: above its lowest 7 bits stands the turn
+        // the least LONG of the rest, by place, b and running sum; above its lowest 7 bits stands the turn
         private final int[] rests = new int[MOST_KINS * NEARS * RUNS];
         // the least running sum behind a WORD, by how many were put in: of this KIN, of the next one
         private int[] runs = new int[MOST_KINS * Numbers.MOST_WORDS];

@@ -215,6 +215,10 @@ public final class ActsShelvesTest {
             c.due("lowest bits", x.element(2, 0), sort == 4 ? 1 : -1);
             c.due("put", x.put(2, 0, 1L << 63), 1);
             c.due("lowest bits", x.element(2, 0), sort == 4 ? 1 : sort == 3 ? Long.MIN_VALUE : 0);
+            c.due("put", x.put(2, 0, 1), 1);
+            c.due("one", x.element(2, 0), 1);
+            c.due("put", x.put(2, 0, 0), 1);
+            c.due("nought", x.element(2, 0), 0);
             c.due("place", x.put(2, 60, 1), Check.NO_PLACE);
             c.due("place", x.put(2, -1, 1), Check.NO_PLACE);
             c.due("place", x.element(2, 60), Long.MIN_VALUE);

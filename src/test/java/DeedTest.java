@@ -172,20 +172,27 @@ public final class DeedTest {
     }
 
     private static void fortyChanges() {
-        WhoMentionsIt x = new WhoMentionsIt();
-        for (int i = 1; i <= 45; i++) {
-            x.mend(0, 6, 100 + i);
+        WhoMentionsIt x = Check.people(10, 20, 30);
+        x.word(1, 11);
+        x.word(2, 22);
+        int[][] told = new int[45][];
+        for (int i = 0; i < 45; i++) {
+            int what = i * 7 % 10;
+            int number = what < 6 ? i % 2 : 0;
+            int v = what == 3 || what == 6 ? 1000 + i : (x.of(number, what) + 1) % 7 + 1;
+            told[i] = new int[] {number, what, x.mend(number, what, v), v};
         }
         c.due("forty", x.count(3), 40);
         for (int i = 39; i >= 0; i--) {
             c.due("undo", x.undo(), i);
+            c.due("undone", x.of(told[i + 5][0], told[i + 5][1]), told[i + 5][2]);
         }
-        c.due("the five oldest stay", x.of(0, 6), 105);
-        c.due("none", x.undo(), STATE);
-        for (int i = 39; i >= 0; i--) {
-            c.due("redo", x.redo(), i);
+        c.due("the five oldest stay", x.undo(), STATE);
+        for (int i = 0; i < 40; i++) {
+            c.due("redo", x.redo(), 39 - i);
+            c.due("done again", x.of(told[i + 5][0], told[i + 5][1]), told[i + 5][3]);
         }
-        c.due("all again", x.of(0, 6), 145);
+        c.due("all are", x.redo(), STATE);
     }
 
     private static void deedsAreNoChanges() {

@@ -8,7 +8,7 @@ public final class OracleTest {
     public static void main(String[] args) {
         lawAnswers();
         lawValues();
-        for (int seed = 0; seed < 400; seed++) {
+        for (int seed = 0; seed < 1000; seed++) {
             table(seed);
         }
         c.end();
@@ -36,7 +36,14 @@ public final class OracleTest {
         return "(" + randomText(r, open - 1, size) + ")";
     }
 
+    private static final String[] TELLING = {"n-p", "n-p%3*2", "p%2?n+b;-n", "n*3-v-p", "b?9;n-4", "n+b-p*2", "n=0?-v;n+b",
+        "p=2?-5;n", "n*p%7-2", "k=p?-3;n", "l-p+b/2", "(p>1)*n-1"};
+
     private static String randomLaw(Random r) {
+        return r.nextInt(3) > 0 ? TELLING[r.nextInt(TELLING.length)] : wildLaw(r);
+    }
+
+    private static String wildLaw(Random r) {
         StringBuilder text = new StringBuilder();
         int lines = 1 + r.nextInt(3);
         for (int i = 0; i < lines; i++) {
@@ -50,7 +57,7 @@ public final class OracleTest {
     private static void lawAnswers() {
         Random r = new Random(1);
         for (int i = 0; i < 4000; i++) {
-            StringBuilder text = new StringBuilder(randomLaw(r));
+            StringBuilder text = new StringBuilder(wildLaw(r));
             text.setLength(Math.min(text.length(), 40));
             int changes = r.nextInt(3);
             for (int k = 0; k < changes && text.length() > 0; k++) {
@@ -85,7 +92,7 @@ public final class OracleTest {
     private static void lawValues() {
         Random r = new Random(2);
         for (int i = 0; i < 3000; i++) {
-            String law = randomLaw(r);
+            String law = wildLaw(r);
             WhoMentionsIt x = Check.people(100);
             int near = r.nextInt(10);
             int kl = r.nextInt(8) * 10 + 1 + r.nextInt(9);
@@ -113,7 +120,7 @@ public final class OracleTest {
             x.mend(i, 5, r.nextInt(128));
         }
         x.mend(0, 6, r.nextInt(300));
-        x.mend(0, 8, 1 + r.nextInt(40));
+        x.mend(0, 8, 1 + r.nextInt(25));
         x.mend(0, 9, 1 + r.nextInt(30));
         String law = r.nextInt(3) == 0 ? null : randomLaw(r);
         if (law != null) {

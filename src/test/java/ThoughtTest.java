@@ -146,6 +146,11 @@ public final class ThoughtTest {
         Check.bytes(x, 0);
         c.due("no KIN", x.safely(0, 0, -1), 0);
         c.due("no KIN", x.safely(0, 0, 0), NOT);
+        x.word(0, 75);
+        Check.bytes(x, 0, 2, 7);
+        c.due("the last KIN", x.safely(0, 99, -1), 8);
+        Check.bytes(x, 0, 2, -1, 1);
+        c.due("ends with what is no KIN", x.safely(0, 99, -1), 3);
         Check.bytes(x, 0, 2, 8, 1);
         c.due("ends with what is no KIN", x.safely(0, 99, -1), 3);
         Check.bytes(x, 0, 2, 2, 2, 2, 2, 2, 2, 2, 2, 2);
@@ -190,6 +195,15 @@ public final class ThoughtTest {
         x.mend(2, 1, 2);
         c.due("the less NEAR one of the KIN", x.pad(0, 9), 0);
         c.due("not of a KIN beside it", x.pad(0, 8), NOT);
+        Check.law(x, "n=0?-4;n");
+        Check.bytes(x, 0, 1, 2, 1);
+        x.mend(1, 0, 0);
+        c.due("9, -4, 9", x.pad(0, 14), 0);
+        c.due("a second one of KIN 2 would help", x.pad(0, 13), NOT);
+        x.mend(1, 1, 3);
+        c.due("one of KIN 3 may be put in", x.pad(0, 13), 1);
+        c.due("one of KIN 3 may be put in", x.pad(0, 10), 1);
+        c.due("two of KIN 3 may be put in", x.pad(0, 9), 2);
         Check.bytes(x, 0, 1, 1);
         x.mend(2, 1, 1);
         c.due("not of a KIN beside it", x.pad(0, 0), 0);

@@ -67,6 +67,7 @@ public final class WaitingTest {
     private static void begin() {
         WhoMentionsIt x = new WhoMentionsIt();
         c.due("below", x.begin(-1), VOID);
+        c.due("below", x.begin(-100), VOID);
         c.due("above", x.begin(10000), VOID);
         c.due("a more than b", x.begin(201), VOID);
         c.due("a as b", x.begin(202), 0);
