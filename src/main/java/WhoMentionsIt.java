@@ -149,6 +149,7 @@ public final class WhoMentionsIt {
         }
         speech.speakerIs(ox / 100);
         care.readKins(shelves[shelf], ox % 100);
+        care.layOut();
         return k < 0 ? care.shortestLength() : care.shortestWord(k);
     }
 
@@ -680,6 +681,11 @@ public final class WhoMentionsIt {
             return held[KIN][word];
         }
 
+        /** LONG of a WORD. */
+        int size(int word) {
+            return held[LONG][word];
+        }
+
         int bound() {
             return held[BOUND][0];
         }
@@ -1114,7 +1120,7 @@ public final class WhoMentionsIt {
             if (kept && gifts[key] >> 8 == turn) {
                 return (gifts[key] & 255) - 128;
             }
-            rule.wordIs(numbers.near(word), numbers.kin(word), numbers.held[Numbers.LONG][word]);
+            rule.wordIs(numbers.near(word), numbers.kin(word), numbers.size(word));
             rule.sayingIs(place, b, nerve);
             int given = rule.worth();
             if (kept) {
@@ -1230,20 +1236,19 @@ public final class WhoMentionsIt {
     /** How told KINS can be spoken of so that it comes no NEARER than so much. */
     private static final class Care {
         static final int MOST_KINS = 8;
-        static final int NO_WAY = 127;
-        static final int NEARS = 10, RUNS = 100;
+        static final int NO_WAY = -1;
+        static final int NEARS = 10, LONGS = 9 * MOST_KINS + 1, TOO_MUCH = 100;
 
         private final Numbers numbers;
         private final Speech speech;
         private final int[] kins = new int[MOST_KINS];
-        // the least LONG of the rest, by place, b and running sum; above its lowest 7 bits stands the turn
-        private final int[] rests = new int[MOST_KINS * NEARS * RUNS];
+        // the greatest running sum with which the rest can still be said, by place, b and how LONG the rest is
+        private final int[] rooms = new int[MOST_KINS * NEARS * LONGS];
         // the least running sum behind a WORD, by how many were put in: of this KIN, of the next one
         private int[] runs = new int[MOST_KINS * Numbers.MOST_WORDS];
         private int[] nextRuns = new int[MOST_KINS * Numbers.MOST_WORDS];
         private int many;
         private int most;
-        private int turn;
 
         Care(Numbers numbers, Speech speech) {
             this.numbers = numbers;
@@ -1252,7 +1257,6 @@ public final class WhoMentionsIt {
 
         void readKins(Shelf from, int nearest) {
             most = nearest;
-            turn++;
             many = 0;
             int last = Math.min(from.length, MOST_KINS);
             for (int i = 0; i < last && isKin(from.number(i)); i++) {
@@ -1265,64 +1269,91 @@ public final class WhoMentionsIt {
             return value >= 0 && value <= Numbers.LAST_KIN;
         }
 
+        /** From the last KIN back; a less running sum is never worse, so the greatest that will do is enough. */
+        void layOut() {
+            for (int place = many - 1; place >= 0; place--) {
+                int bs = bsAt(place);
+                for (int b = 0; b < NEARS; b++) {
+                    if ((bs >> b & 1) != 0) {
+                        layOutFrom(place, b);
+                    }
+                }
+            }
+        }
+
+        /** Which b (bits) a WORD at a place may have. */
+        private int bsAt(int place) {
+            int bs = place == 0 ? 1 : 0;
+            for (int word = 0; word < numbers.words && place > 0; word++) {
+                if (numbers.kin(word) == kins[place - 1]) {
+                    bs |= 1 << bBehind(word, place - 1);
+                }
+            }
+            return bs;
+        }
+
+        private void layOutFrom(int place, int b) {
+            int start = (place * NEARS + b) * LONGS;
+            for (int i = 0; i < LONGS; i++) {
+                rooms[start + i] = NO_WAY;
+            }
+            for (int word = 0; word < numbers.words; word++) {
+                if (numbers.kin(word) != kins[place]) {
+                    continue;
+                }
+                int gift = speech.gift(word, place, b);
+                int first = start + numbers.size(word);
+                int next = bBehind(word, place);
+                for (int rest = 0; rest <= 9 * (many - place - 1); rest++) {
+                    int room = roomFor(place + 1, next, rest);
+                    if (room >= 0) {
+                        rooms[first + rest] = Math.max(rooms[first + rest], Math.min(most, room - gift));
+                    }
+                }
+            }
+        }
+
+        private int roomFor(int place, int b, int rest) {
+            if (place >= many) {
+                return rest == 0 ? most : NO_WAY;
+            }
+            return rest < 0 || rest >= LONGS ? NO_WAY : rooms[(place * NEARS + b) * LONGS + rest];
+        }
+
         int shortestLength() {
-            int size = shortestRest(0, 0, 0);
-            return size == NO_WAY ? NOT : size;
+            for (int size = 0; size < LONGS; size++) {
+                if (roomFor(0, 0, size) >= 0) {
+                    return size;
+                }
+            }
+            return NOT;
         }
 
         int shortestWord(int k) {
-            if (k >= many || shortestRest(0, 0, 0) == NO_WAY) {
-                return NOT;
-            }
+            int size = shortestLength();
+            int word = NOT;
             int b = 0;
             int run = 0;
-            for (int place = 0; place < many; place++) {
-                int word = firstOfShortest(place, b, run);
-                if (place == k || word < 0) {
-                    return word;
+            for (int place = 0; place <= k && size >= 0; place++) {
+                word = place < many ? firstThatFits(place, b, run, size) : NOT;
+                if (word < 0) {
+                    return NOT;
                 }
                 run = runBehind(word, place, b, run);
                 b = bBehind(word, place);
+                size -= numbers.size(word);
             }
-            return NOT;
+            return word;
         }
 
-        private int firstOfShortest(int place, int b, int run) {
-            int size = shortestRest(place, b, run);
-            for (int word = 0; word < numbers.words && size != NO_WAY; word++) {
-                if (sizeWith(word, place, b, run) == size) {
+        private int firstThatFits(int place, int b, int run, int size) {
+            for (int word = 0; word < numbers.words; word++) {
+                int room = roomFor(place + 1, bBehind(word, place), size - numbers.size(word));
+                if (numbers.kin(word) == kins[place] && runBehind(word, place, b, run) <= room) {
                     return word;
                 }
             }
             return NOT;
-        }
-
-        /** The least LONG of the WORDS from a place on; place is the depth of this recursion. */
-        private int shortestRest(int place, int b, int run) {
-            if (place >= many || place >= MOST_KINS) {
-                return 0;
-            }
-            int key = (place * NEARS + b) * RUNS + run;
-            if (rests[key] >> 7 != turn) {
-                int least = NO_WAY;
-                for (int word = 0; word < numbers.words; word++) {
-                    least = Math.min(least, sizeWith(word, place, b, run));
-                }
-                rests[key] = (turn << 7) + least;
-            }
-            return rests[key] & 127;
-        }
-
-        private int sizeWith(int word, int place, int b, int run) {
-            if (numbers.kin(word) != kins[place]) {
-                return NO_WAY;
-            }
-            int next = Math.max(0, run + speech.gift(word, place, b));
-            if (next > most) {
-                return NO_WAY;
-            }
-            int rest = shortestRest(place + 1, bBehind(word, place), next);
-            return rest == NO_WAY ? NO_WAY : numbers.held[Numbers.LONG][word] + rest;
         }
 
         private int runBehind(int word, int place, int b, int run) {
@@ -1370,7 +1401,7 @@ public final class WhoMentionsIt {
 
         private void goWithOnePutIn(int index, int put) {
             int run = leastRun(put);
-            int between = RUNS;
+            int between = TOO_MUCH;
             for (int word = 0; word < numbers.words && run <= most; word++) {
                 int kin = numbers.kin(word);
                 if (kin != kins[index] && kin != kins[index + 1]) {
@@ -1385,7 +1416,7 @@ public final class WhoMentionsIt {
         }
 
         private int leastRun(int put) {
-            int least = RUNS;
+            int least = TOO_MUCH;
             for (int word = 0; word < numbers.words; word++) {
                 least = Math.min(least, runs[put * Numbers.MOST_WORDS + word]);
             }
@@ -1394,7 +1425,7 @@ public final class WhoMentionsIt {
 
         private void clearNext() {
             for (int i = 0; i < nextRuns.length; i++) {
-                nextRuns[i] = RUNS;
+                nextRuns[i] = TOO_MUCH;
             }
         }
 

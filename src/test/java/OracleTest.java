@@ -11,6 +11,9 @@ public final class OracleTest {
         for (int seed = 0; seed < 1000; seed++) {
             table(seed);
         }
+        for (int seed = 0; seed < 60; seed++) {
+            manyKins(seed);
+        }
         c.end();
     }
 
@@ -134,6 +137,28 @@ public final class OracleTest {
         randomTalk(x, r, people);
         thought(x, plain, r, one, "seed " + seed);
         readBack(x, plain, r, one, "seed " + seed);
+    }
+
+    /** SAY IT SAFELY with as many KINS as there may be. */
+    private static void manyKins(int seed) {
+        Random r = new Random(seed);
+        WhoMentionsIt x = Check.people(100);
+        for (int i = 0; i < 7; i++) {
+            x.word(r.nextInt(10), r.nextInt(3) * 10 + 1 + r.nextInt(9));
+        }
+        String law = seed % 2 == 0 ? null : randomLaw(r);
+        if (law != null) {
+            Check.law(x, law);
+        }
+        x.row(1, 0, 9);
+        for (int i = 0; i < 9; i++) {
+            x.put(1, i, r.nextInt(3));
+        }
+        PlainTable plain = new PlainTable(x, law);
+        int x1 = r.nextInt(100);
+        for (int k = -1; k < 9; k++) {
+            c.due("seed " + seed + " many safely " + x1 + " " + k, x.safely(1, x1, k), plain.safely(1, x1, k));
+        }
     }
 
     private static void randomRow(WhoMentionsIt x, Random r, int shelf, int most, int from, int to) {
