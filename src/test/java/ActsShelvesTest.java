@@ -242,7 +242,10 @@ public final class ActsShelvesTest {
         c.due("a BODY", x.put(0, 0, 1), Check.OTHER_KIND);
         c.due("a BODY", x.element(0, 0), Long.MIN_VALUE);
         x.row(2, 3, 60);
-        c.due("a new ROW", x.element(2, 0), 0);
+        x.put(2, 0, 7);
+        x.put(2, 59, 7);
+        x.row(2, 3, 60);
+        c.due("a new ROW", x.element(2, 0) + x.element(2, 59), 0);
     }
 
     private static void shift() {
@@ -265,6 +268,7 @@ public final class ActsShelvesTest {
         c.due("to another", x.shift(0, 3, 1, 1, 2), 2);
         c.due("to another", x.element(1, 0) * 100 + x.element(1, 1) * 10 + x.element(1, 2), 644);
         c.due("none", x.shift(0, 5, 1, 3, 0), 0);
+        c.due("all onto itself", x.shift(1, 0, 1, 0, 3), 3);
         int[][] noPlace = {{0, 3, 1, 0, 3}, {0, -1, 1, 0, 1}, {0, 0, 1, -1, 1}, {0, 0, 1, 0, -1}, {0, 0, 1, 1, 3},
             {0, 6, 1, 0, 0}, {0, 0, 1, 4, 0}, {0, Integer.MAX_VALUE, 1, 0, 2}, {0, 0, 1, 0, Integer.MAX_VALUE},
             {0, 1, 1, Integer.MAX_VALUE, 1}, {0, 0, 1, 0, Integer.MIN_VALUE}};

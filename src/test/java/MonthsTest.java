@@ -140,10 +140,12 @@ public final class MonthsTest {
         c.due("n", x.drawn(1, 100, 0), BAD);
         c.due("what", x.drawn(1, 1, 3), BAD);
         c.due("what", x.drawn(1, 1, -1), BAD);
+        x.word(9, 11);
+        c.due("one of them, one WORD", x.drawn(1, 99, 0), 99);
+        c.due("one of them, one WORD", x.drawn(1, 1, 2), 0);
         x.person(20);
         x.person(30);
         x.mend(1, 4, 9);
-        x.word(9, 11);
         x.word(5, 11);
         x.word(2, 21);
         for (int seed = -3; seed < 4; seed++) {

@@ -157,6 +157,10 @@ public final class ThoughtTest {
         c.due("eight at most", x.safely(0, 99, -1), 24);
         c.due("eight at most", x.safely(0, 99, 7), 4);
         c.due("eight at most", x.safely(0, 99, 8), NOT);
+        x.mend(4, 2, 9);
+        c.due("the longest way", x.safely(0, 99, -1), 72);
+        c.due("the longest way", x.safely(0, 99, 7), 4);
+        x.mend(4, 2, 3);
         c.due("1 and 7 times 2", x.safely(0, 14, -1), NOT);
         c.due("1 and 7 times 2", x.safely(0, 15, -1), 24);
     }

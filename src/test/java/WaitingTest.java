@@ -104,6 +104,8 @@ public final class WaitingTest {
         c.due("left over whole", x.treaty(1, 0), 20);
         c.due("left over whole", x.treaty(2, 0), 20);
         c.due("61 by 3 is 20", x.treaty(0, 2), 1);
+        x.mend(0, 6, 2);
+        c.due("two pennies for three", x.treaty(0, 0) * 100 + x.treaty(1, 0) * 10 + x.treaty(2, 0), 110);
         x.mend(0, 6, 0);
         c.due("nothing to pay", x.treaty(0, 1), 1);
         x = Check.people(9999, 9999, 0, 9999, 9999, 9999, 9999);
@@ -188,6 +190,7 @@ public final class WaitingTest {
         c.due("one way out", x.ask(0, 0, 1), 103);
         x.mend(1, 4, 9);
         Check.law(x, "v=9?99;n");
+        x.mend(3, 1, 7);
         c.due("by the other's NERVE", x.corner(1), 15);
         c.due("by its own", x.corner(0), 0);
         c.due("one", x.ask(2, 0, 0), BAD);
