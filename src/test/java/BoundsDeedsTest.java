@@ -22,6 +22,7 @@ public final class BoundsDeedsTest {
         redoNone();
         sameNumberIsNone();
         fortyAtMost();
+        fortyOfMany();
         redoAtForty();
         otherCameBehind();
         changesOfAll();
@@ -58,6 +59,7 @@ public final class BoundsDeedsTest {
         r.make("mend(0, 8, 27)").due("utter(0, 0)", 50).due("led(4)", 0).due("led(2)", 1).due("led(1)", 50).due("of(0, 3)", 50);
         r.due(0, "utter(0, 0)", "utter(1, 0)").due("of(0, 3)", 50).due("of(1, 3)", 100).due("led(2)", 1).due("led(1)", 50).due("led(4)", 0);
         r.due("led(0)", 4);
+        r = table(100, 100).make("mend(1, 4, 9)").law("v=9?n*2;0").due("utter(0, 0)", 0).due("utter(1, 0)", 50).due("led(4)", 1);
         c.says("it ends with what is no WORD");
         r = table(100, 100).like(3, 11, 2).make("put(3, 10, 0)", "mend(0, 8, 9)").due("utter(0, 3)", 0).due("led(4)", NOT);
         r.make("put(3, 9, 0)").due("utter(0, 3)", 50).due("led(4)", 0);
@@ -216,10 +218,29 @@ public final class BoundsDeedsTest {
             }
             r.refused("undo()", STATE, "of(0, 6)").due("of(0, 6)", many <= 40 ? 50 : 100 + many - 41).due("count(3)", 0);
             for (int i = Math.min(40, many) - 1; i >= 0; i--) {
-                r.due("redo()", i);
+                r.due("redo()", i).due("of(0, 6)", 99 + many - i);
             }
             r.refused("redo()", STATE, "of(0, 6)").due("of(0, 6)", 99 + many).due("count(3)", Math.min(40, many));
         }
+    }
+
+    /** The forty that are kept are whole: whose, what, and both numbers. */
+    private static void fortyOfMany() {
+        Run r = new Run(c);
+        for (int i = 0; i < 7; i++) {
+            r.make("person(100)");
+        }
+        for (int i = 0; i < 43; i++) {
+            r.make("mend(" + i % 7 + ", 3, " + (200 + i) + ")");
+        }
+        for (int i = 42; i >= 3; i--) {
+            r.due("of(" + i % 7 + ", 3)", 200 + i).due("undo()", i - 3).due("of(" + i % 7 + ", 3)", i < 7 ? 100 : 193 + i);
+        }
+        r.due("undo()", STATE).due("of(0, 3)", 200).due("of(2, 3)", 202).due("of(3, 3)", 100);
+        for (int i = 3; i < 43; i++) {
+            r.due("redo()", 42 - i).due("of(" + i % 7 + ", 3)", 200 + i);
+        }
+        r.due("redo()", STATE).make("mend(0, 6, 1)", "undo()", "undo()").due("of(0, 3)", 235).due("of(0, 6)", 50);
     }
 
     private static void redoAtForty() {

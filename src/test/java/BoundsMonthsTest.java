@@ -151,6 +151,9 @@ public final class BoundsMonthsTest {
         r.law("n=9?0;1").due("mayBe(0, 0)", 9).law("n=4?0;1").due("mayBe(0, 0)", 4).law("n=0?0;1").due("mayBe(0, 0)", 0);
         r.law("n&n<9").due("mayBe(0, 0)", 9).law("0").due("mayBe(0, 0)", 9);
         r.due(5, "of(0, 0)", "of(1, 0)").due("count(3)", 7);
+        // by the one that is told ahead of the WORD
+        r.make("person(9)", "mend(1, 4, 9)", "mend(0, 8, 9)").law("v=9?n*3;n").due("mayBe(0, 0)", 8).due("mayBe(0, 100)", 2).due("mayBe(0, 1)", 9).due("mayBe(0, 101)", NOT);
+        r.make("mend(0, 8, 1)");
         // its NEAR counts as b of the next one, too
         r.bytes(0, 0, 0).law("b>3").due("mayBe(0, 0)", 3);
     }

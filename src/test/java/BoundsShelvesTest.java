@@ -60,6 +60,9 @@ public final class BoundsShelvesTest {
         r.due("act(0, 3, " + 0x40000000 + ")", LEAST - 1).due("act(1, 3, " + (0x40000000 - 4) + ")", LEAST);
         r.due("act(7, 0, " + LEAST + ")", 2 * 7 - 1).due("act(6, 0, " + (0x40000000 - 6) + ")", LEAST).due("act(7, 0, " + (0x40000000 - 7) + ")", MOST);
         r.due("act(5, 2, " + LEAST + ")", 3 * (LEAST ^ 5) - 7).due("act(4, 3, " + MOST + ")", 2 * (MOST + 7) - 5 ^ 5);
+        // CLERK, number 5, tells: nears(x) - pays(1) + 1, with pays(1) = 3 * (1 ^ 5) - 7; CHILD, number 7, nears: 2 * says(x) + (2 ^ 7)
+        r.due("act(5, 3, 0)", -12 - 5 + 1).due("act(5, 3, " + (0x40000000 - 6) + ")", LEAST - 4).due("act(5, 3, " + MOST + ")", -(2 * (MOST + 6)) - 4);
+        r.due("act(7, 1, 0)", 2 * 13 + 5).due("act(7, 1, " + MOST + ")", 2 * (2 * (MOST + 7) - 1) + 5).due("act(7, 3, 0)", 31 - 6);
     }
 
     private static void actsThatAreNot() {

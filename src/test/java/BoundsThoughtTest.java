@@ -198,6 +198,10 @@ public final class BoundsThoughtTest {
         r.law("-1").due(1, "safely(0, 0, -1)").due(2, "safely(1, 0, -1)");
         r.law("0").due(2, "safely(1, 0, -1)").law("1").due("safely(1, 0, -1)", NOT).due("safely(1, 1, -1)", NOT).due("safely(1, 2, -1)", 2);
         r.law("v").due("safely(0, 5, -1)", 1).due("safely(0, 108, -1)", NOT).due("safely(0, 109, -1)", 1);
+        r.due("safely(0, 99, -1)", 1).due("safely(0, 100, -1)", NOT).due("pad(0, 108)", NOT).due("pad(0, 109)", 0);
+        r.law("(v=9)*99").due("safely(0, 99, -1)", 1).due("safely(0, 0, -1)", 1).due("safely(0, 198, -1)", NOT).due("safely(0, 199, -1)", 1);
+        r.due("pad(0, 0)", 0).due("pad(0, 198)", NOT).due("pad(0, 199)", 0).due("pad(0, 100)", NOT);
+        r.law("(v=5)*99").due("safely(0, 98, -1)", NOT).due("safely(0, 99, -1)", 1).due("safely(0, 100, -1)", 1).due("pad(0, 98)", NOT).due("pad(0, 100)", 0);
         // what draws away in between lets more be said
         r.law("p=1?-9;5").bytes(1, 1, 1, 1).due("safely(1, 4, -1)", NOT).due("safely(1, 5, -1)", 3);
         r.law("p=1?-3;5").due("safely(1, 6, -1)", NOT).due("safely(1, 7, -1)", 3);
@@ -215,6 +219,19 @@ public final class BoundsThoughtTest {
         r.due("safely(0, 1, 0)", 1).due("safely(0, 1, 1)", 0).due("safely(0, 0, 0)", 1).due("safely(0, 0, 1)", 0);
         r.law("0").make("mend(0, 2, 1)").due("safely(0, 0, 0)", 0).due("safely(0, 0, 1)", 0);
         r.law("p=n?9;0").make("mend(1, 0, 1)").due("safely(0, 0, 0)", 1).due("safely(0, 0, 1)", 0);
+        // what was said ahead counts: the sum that runs on, and b
+        r = new Run(c).make("word(3, 11)", "word(0, 11)", "word(0, 21)", "person(9)").bytes(0, 1, 2, 1);
+        int[][] first = {{6, 0, 0}, {5, 0, 1}, {3, 0, 1}, {2, 1, 1}};
+        for (int[] f : first) {
+            r.due("safely(0, " + f[0] + ", 0)", f[1]).due("safely(0, " + f[0] + ", 1)", 2).due("safely(0, " + f[0] + ", 2)", f[2]);
+        }
+        r.bytes(0, 1, 1);
+        first = new int[][] {{9, 0, 0}, {8, 0, 1}, {6, 0, 1}, {5, 1, 0}, {3, 1, 0}, {2, 1, 1}};
+        for (int[] f : first) {
+            r.due("safely(0, " + f[0] + ", 0)", f[1]).due("safely(0, " + f[0] + ", 1)", f[2]);
+        }
+        // a WORD that is LONGER than all that is left is none of the shortest way, though its number is less
+        r = new Run(c).make("word(1, 19)", "word(1, 11)", "person(9)").bytes(0, 1, 1).law("0").due("safely(0, 0, 0)", 1).due("safely(0, 0, 1)", 1);
         // all as LONG as may be
         r = new Run(c).make("word(0, 19)", "person(9)").like(0, 8, 1).due("safely(0, 0, -1)", 72).due("safely(0, 0, 7)", 0);
     }
@@ -244,9 +261,35 @@ public final class BoundsThoughtTest {
         }
         Run r = new Run(c).make("word(9, 11)", "word(9, 21)", "word(0, 31)", "person(9)").bytes(0, 1, 2).law("n=9?9;-5");
         r.due("pad(0, 18)", 0).due("pad(0, 17)", 1).due("pad(0, 13)", 1).due("pad(0, 12)", NOT);
+        // of the KIN of one beside it none may be put in, even where it would help: KIN 3 must not stand at place 2
+        r = new Run(c).make("word(0, 11)", "word(0, 21)", "word(0, 31)", "person(9)").bytes(0, 1, 2, 3);
+        r.law("k=3&p<3|k=1&p=2?99;0").due("pad(0, 98)", NOT).due("pad(0, 99)", 0);
+        r.law("k=3&p=2?99;0").due("pad(0, 98)", 1).law("k=3&p<3?99;0").due("pad(0, 98)", 1).law("k=3&p=2|k=1&p=2?99;0").due("pad(0, 98)", 1);
+        // WORD 0 may be put in, too, and the last one
+        r = new Run(c).make("word(0, 71)", "word(4, 11)", "person(9)").bytes(0, 1, 1).due("pad(0, 11)", 1).due("pad(0, 8)", 1).due("pad(0, 7)", NOT);
+        r = new Run(c).make("word(4, 11)", "word(0, 1)", "person(9)").bytes(0, 1, 1).due("pad(0, 11)", 1);
+        padPlaces();
+        r = new Run(c).make("word(9, 11)", "word(9, 21)", "word(0, 31)", "person(9)").bytes(0, 1, 2).law("n=9?9;-5");
         // what is put in may itself come too near
         r.law("n=9?p*2;9").due("pad(0, 2)", 0).due("pad(0, 1)", NOT);
         r.law("n=9?(p<2)*9;3").due("pad(0, 17)", 1).due("pad(0, 12)", 1).due("pad(0, 11)", NOT);
+    }
+
+    /** What is put in moves all behind it on by one place. */
+    private static void padPlaces() {
+        Run r = new Run(c).make("word(1, 11)", "word(0, 21)", "person(9)").bytes(0, 1, 1, 1);
+        // the told ones must stand at 0, 2, 3: put in ahead of the second one; or at 0, 1, 3; or at 0, 2, 4
+        String[] told = {"n&p=1|p>3", "n&p=2|p>3", "n&p=1|n&p=3"};
+        int[] due = {1, 1, 2};
+        for (int i = 0; i < told.length; i++) {
+            r.law(told[i]).due("pad(0, 0)", due[i]);
+        }
+        // at which place stands what was put in, and what behind it
+        r.law("n&p=1|n=0&p=1|p>4").due("pad(0, 0)", NOT).law("n&p=1|n=0&p=3|p>4").due("pad(0, 0)", 1).law("n&p=1|n&p=3|n=0&p=3").due("pad(0, 0)", NOT);
+        r.law("n&p=2|n=0&p=1").due("pad(0, 0)", 1).law("n&p=2|n=0&p=2").due("pad(0, 0)", NOT).law("n&p=2|n&p=3|n=0&p=2").due("pad(0, 0)", NOT);
+        r.like(0, 4, 1).law("n&p=1|n&p=4|p>5").due("pad(0, 0)", 2).law("n&p=1|n&p=4|p>4").due("pad(0, 0)", NOT);
+        r.law("n&p=1|n&p=3|n&p=4").due("pad(0, 0)", NOT).law("n&p=1|n&p=3|n&p=6").due("pad(0, 0)", 2);
+        r.law("n&p=1|n&p=3|n&p=5").due("pad(0, 0)", 3).law("n&p=3").due("pad(0, 0)", 1);
     }
 
     private static void padFull() {
@@ -273,6 +316,8 @@ public final class BoundsThoughtTest {
             r.make("word(0, 11)");
         }
         r.make("word(9, 21)", "word(8, 21)").due("dangerous(0, 0)", 2).due("dangerous(0, 1)", 20 * 14 + 15);
+        Run first = new Run(c).make("person(9)", "word(1, 11)", "word(2, 11)", "word(3, 21)", "mend(0, 8, 45)").law("n*9");
+        first.due("dangerous(0, 0)", 2).due("dangerous(0, 1)", 20 + 2).make("mend(0, 8, 36)").due("dangerous(0, 0)", 4).due("dangerous(0, 1)", 2);
         r.law("p=0?n*2;n=9").due("dangerous(0, 0)", 15).due("dangerous(0, 1)", 20 * 14);
         r.law("p=1?n*3;0").due("dangerous(0, 0)", 30).due("dangerous(0, 1)", 14);
         r.law("p=1&n=8?18;p=1&n=9?9;n").due("dangerous(0, 1)", 15);
@@ -296,6 +341,8 @@ public final class BoundsThoughtTest {
         r.make("mend(1, 0, 3)").due(1, "wordFor(0, 0)", "wordFor(1, 0)", "wordFor(3, 0)");
         r.make("mend(4, 1, 1)").due(4, "wordFor(0, 0)", "wordFor(4, 0)");
         c.says("WORD FOR IT by one. BAD.");
+        Run two = new Run(c).make("person(9)", "person(9)", "mend(1, 4, 9)", "word(1, 11)", "word(2, 11)").law("v=9?9-n;n");
+        two.due("wordFor(0, 0)", 0).due("wordFor(0, 1)", 1).due("wordFor(1, 0)", 0).due("wordFor(1, 1)", 1);
         r.due(BAD, "wordFor(-1, 0)", "wordFor(6, 0)", "wordFor(" + LEAST + ", 0)", "wordFor(" + MOST + ", 0)");
         r.due(BAD, "wordFor(0, -1)", "wordFor(0, 1)", "wordFor(0, " + LEAST + ")", "wordFor(0, " + MOST + ")");
         r = new Run(c).make("person(9)");
@@ -323,6 +370,7 @@ public final class BoundsThoughtTest {
         c.says("BARE (ox): bits of KINS. BAD.");
         Run r = new Run(c).due(BAD, "bare(0)").make("person(9)", "person(9)", "mend(1, 4, 9)", "word(0, 1)").law("v");
         r.due(BAD, "bare(-1)", "bare(-100)", "bare(200)", "bare(" + LEAST + ")", "bare(" + MOST + ")");
+        r.law("(v=9)*99").due("bare(0)", 0).due("bare(99)", 0).due("bare(100)", 1).due("bare(198)", 1).due("bare(199)", 0).law("v");
         r.due("bare(4)", 1).due("bare(5)", 0).due("bare(99)", 0).due("bare(100)", 1).due("bare(108)", 1).due("bare(109)", 0).due("bare(199)", 0);
     }
 }

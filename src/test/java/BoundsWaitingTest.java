@@ -20,6 +20,7 @@ public final class BoundsWaitingTest {
         talkLengths();
         talkThatIsNotSo();
         talkHeard();
+        talkByNerve();
         talkSumOfThatDay();
         halves();
         askNumbers();
@@ -246,6 +247,15 @@ public final class BoundsWaitingTest {
         r.make("mend(0, 5, 4)").due("talk(3, 0)", 2).due("talk(3, 1)", 2).due("talk(3, 2)", 61);
         r.make("mend(0, 5, 1)").due("talk(3, 0)", NOT).due("talk(3, 3)", 0);
         r.make("mend(0, 8, 27)", "mend(1, 5, 1)").due("talk(3, 0)", 0).make("mend(0, 8, 28)").due("talk(3, 0)", NOT).due("talk(3, 3)", 25);
+    }
+
+    private static void talkByNerve() {
+        c.says("one of the people, a SHELF whose SENTENCE it says");
+        Run r = talkers().make("mend(1, 4, 9)").law("v=9?n*3").shorts(3, 0, 0, 2, 0, 1, 0).due("talk(3, 0)", 2).due("talk(3, 1)", 1);
+        r.shorts(3, 1, 1, 0, 0, 1, 1).due("talk(3, 0)", 0).law("v=9?n*2").due("talk(3, 0)", 0).law("v=9?n").due("talk(3, 0)", NOT).due("talk(3, 3)", 25 + 30);
+        c.says("CORNER: bits. BAD.");
+        r = new Run(c).make("person(9)", "person(9)", "mend(1, 4, 9)", "word(1, 11)", "word(1, 21)").law("v=9?99;0");
+        r.due("corner(0)", 0).due("corner(1)", 3).due("corner(0)", 0).due("ask(0, 0, 0)", 1).due("ask(1, 0, 0)", 0);
     }
 
     private static void talkSumOfThatDay() {

@@ -28,6 +28,12 @@ public final class BoundsWordsPeopleTest {
         r.due("led(4)", Run.NOT);
         r.due(Check.NOTHING_THERE, "taken(0, 0)", "taken(5, 0)");
         r.due("trace(0)", BAD);
+        c.says("public static final int BAD = -1, NOT = -2, FULL = -3, STATE = -5, VOID = -2000000000;");
+        c.due("BAD", WhoMentionsIt.BAD, -1);
+        c.due("NOT", WhoMentionsIt.NOT, -2);
+        c.due("FULL", WhoMentionsIt.FULL, -3);
+        c.due("STATE", WhoMentionsIt.STATE, -5);
+        c.due("VOID", WhoMentionsIt.VOID, -2000000000);
     }
 
     private static void wordsAsTheyCome() {
@@ -236,15 +242,14 @@ public final class BoundsWordsPeopleTest {
 
     private static void wordsUntilFull() {
         c.says("or WORDS are FULL: those ahead came");
-        for (int before = 13; before <= 16; before++) {
+        for (int before = 11; before <= 16; before++) {
             Run r = new Run(c).like(0, 12, 2);
             for (int i = 0; i < before; i++) {
                 r.make("word(1, 11)");
             }
-            r.due("words(0, 0, 4)", Math.min(4, 16 - before));
-            r.due("count(0)", Math.min(16, before + 4));
-            r.due(before < 16 ? 2 : 1, "of(15, 0)").due(1, "of(12, 0)");
-            r.due("words(0, 0, 1)", before == 12 ? 1 : 0);
+            r.due("words(0, 0, 4)", Math.min(4, 16 - before)).due("count(0)", Math.min(16, before + 4));
+            r.due("of(" + (before - 1) + ", 0)", 1).due("of(" + before + ", 0)", before < 16 ? 2 : BAD);
+            r.due("words(0, 0, 1)", before == 11 ? 1 : 0).due("count(0)", 16);
         }
         c.says("Answers, of several the one named first: BAD (-1): no such number, or it is not as said;");
         Run r = new Run(c).like(0, 48, 1).make("words(0, 0, 16)", "row(0, 1, 3)");
