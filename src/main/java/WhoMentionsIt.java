@@ -10,6 +10,8 @@ public final class WhoMentionsIt {
     private static final int FOR_EVER = 999;
     private static final int LAST_DAY = 999;
     private static final int MOST_MONTHS = 12;
+    // Long.MIN_VALUE, which isn't among the names of the library that LANGUAGE.md lists
+    private static final long NO_ELEMENT = 1L << 63;
 
     private final Numbers numbers;
     private final Changes changes;
@@ -190,7 +192,8 @@ public final class WhoMentionsIt {
         }
         speech.speakerIs(one);
         int best = word;
-        int least = Integer.MAX_VALUE;
+        // one more, so that the first of like ones is found, be it the WORD itself or not
+        int least = speech.aloneNearness(word) + 1;
         for (int w = 0; w < numbers.words; w++) {
             if (numbers.kin(w) == numbers.kin(word) && speech.aloneNearness(w) < least) {
                 least = speech.aloneNearness(w);
@@ -542,7 +545,7 @@ public final class WhoMentionsIt {
 
     public long element(int shelf, int i) {
         if (!isShelf(shelf) || shelves[shelf].refusalAt(i) != 0) {
-            return Long.MIN_VALUE;
+            return NO_ELEMENT;
         }
         return shelves[shelf].cells[i];
     }
@@ -1177,11 +1180,12 @@ public final class WhoMentionsIt {
         /** 100 times the first WORD and the second one of the least NEAR answer to a KIN, or NOT. */
         int safestAnswer(int kin) {
             int safest = NOT;
-            int least = Integer.MAX_VALUE;
+            int least = 0;
             for (int first = 0; first < numbers.words; first++) {
                 for (int second = 0; second < numbers.words && numbers.kin(first) == kin; second++) {
-                    if (numbers.kin(second) != kin && pairNearness(first, second) < least) {
-                        least = pairNearness(first, second);
+                    int near = pairNearness(first, second);
+                    if (numbers.kin(second) != kin && (safest == NOT || near < least)) {
+                        least = near;
                         safest = 100 * first + second;
                     }
                 }

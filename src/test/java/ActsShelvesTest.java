@@ -26,111 +26,19 @@ public final class ActsShelvesTest {
         c.due("count", x.count(4), 50);
     }
 
-    /** The document's bodies as Java's own classes. */
-    private interface Says {
-        int n();
-
-        default int says(int x) {
-            return x + n();
-        }
-    }
-
-    private interface Tells {
-        int nears(int x);
-
-        int pays(int x);
-
-        default int tells(int x) {
-            return nears(x) - pays(1);
-        }
-    }
-
-    private static class Saying implements Says, Tells {
-        int number;
-
-        public int n() {
-            return number;
-        }
-
-        public int nears(int x) {
-            return says(x) * 2;
-        }
-
-        public int pays(int x) {
-            return x ^ number;
-        }
-    }
-
-    private static class Hint extends Saying {
-        @Override public int says(int x) {
-            return super.says(x) + 3;
-        }
-    }
-
-    private static class Stammer extends Saying {
-        @Override public int nears(int x) {
-            return -super.nears(x);
-        }
-    }
-
-    private static class Song extends Stammer {
-        @Override public int pays(int x) {
-            return super.pays(x) * 3;
-        }
-
-        @Override public int nears(int x) {
-            return super.nears(x + 1);
-        }
-    }
-
-    private static class Parrot extends Hint {
-        @Override public int tells(int x) {
-            return super.tells(x) ^ 5;
-        }
-    }
-
-    private static class Clerk extends Song {
-        @Override public int pays(int x) {
-            return super.pays(x) - says(2);
-        }
-
-        @Override public int tells(int x) {
-            return super.tells(x) + 1;
-        }
-    }
-
-    private static class Foreigner extends Saying {
-        @Override public int says(int x) {
-            return super.says(x) * 2;
-        }
-    }
-
-    private static class Child extends Foreigner {
-        @Override public int nears(int x) {
-            return super.nears(x) + pays(2);
-        }
-
-        @Override public int says(int x) {
-            return super.says(x) - 1;
-        }
-    }
-
     private static int due(int kind, int number, int act, int x) {
-        Saying[] all = {new Saying(), new Hint(), new Stammer(), new Song(), new Parrot(), new Clerk(),
-            new Foreigner(), new Child()};
-        Saying one = all[kind];
-        one.number = number;
+        ModelBodies.Saying one = ModelBodies.make(kind, number, new ModelBodies.Trace());
         return act == 0 ? one.says(x) : act == 1 ? one.nears(x) : act == 2 ? one.pays(x) : one.tells(x);
     }
 
     private static void acts() {
         int[] xs = {0, 1, -1, 5, 1000000, Integer.MAX_VALUE, Integer.MIN_VALUE, 0x40000000, -77};
-        WhoMentionsIt x = new WhoMentionsIt();
-        for (int i = 0; i < 24; i++) {
-            x.body((i * 5 + 3) % 8);
-        }
-        for (int i = 0; i < 24; i++) {
-            for (int act = 0; act < 4; act++) {
+        for (int act = 0; act < 4; act++) {
+            WhoMentionsIt x = new WhoMentionsIt();
+            for (int i = 0; i < 24; i++) {
+                x.body((i * 5 + 3) % 8);
+            }
+            for (int i = 0; i < 24; i++) {
                 for (int v : xs) {
                     c.due("act " + i + " " + act + " " + v, x.act(i, act, v), due((i * 5 + 3) % 8, i, act, v));
                 }

@@ -17,6 +17,7 @@ public final class LanguageTest {
         String source = Files.readString(Path.of("src/main/java/WhoMentionsIt.java"));
         String code = source.replaceAll("(?s)/\\*.*?\\*/", "").replaceAll("//[^\n]*", "");
         words(code);
+        library(code);
         members();
         methods(code);
         c.end();
@@ -36,6 +37,16 @@ public final class LanguageTest {
             classes++;
         }
         c.due("twelve classes at most", classes <= 12 ? 0 : classes, 0);
+    }
+
+    /** Rule 4 lists functions of the library; no other name of it may stand in the class. */
+    private static void library(String code) {
+        Matcher m = Pattern.compile("\\b(Integer|Long|Short|Byte|Character|Boolean|Double|Float|Math|StrictMath|Arrays"
+                + "|System|String|StringBuilder|List|ArrayList|Objects|Collections|Thread|Runtime)\\b[\\w.]*").matcher(code);
+        Set<String> listed = Set.of("Math.max", "Math.min", "System.arraycopy");
+        while (m.find()) {
+            c.due("rule 4 lists " + m.group(), listed.contains(m.group()) ? 1 : 0, 1);
+        }
     }
 
     private static void members() {
